@@ -101,11 +101,9 @@ public final class MovingThings {
     }
 
     public int at(int thing, int minute, boolean y, boolean upper) {
-        if (!isThing(thing)) {
-            return UNKNOWN;
-        }
-        if (!isMinute(minute)) {
-            return OUTSIDE;
+        int refusal = refuseMoment(thing, minute);
+        if (refusal != 0) {
+            return refusal;
         }
         if (!tracks[thing].locate(minute, spot)) {
             return STATE;
@@ -115,11 +113,9 @@ public final class MovingThings {
     }
 
     public int there(int thing, int minute) {
-        if (!isThing(thing)) {
-            return UNKNOWN;
-        }
-        if (!isMinute(minute)) {
-            return OUTSIDE;
+        int refusal = refuseMoment(thing, minute);
+        if (refusal != 0) {
+            return refusal;
         }
         return tracks[thing].locate(minute, spot) ? 1 : 0;
     }
@@ -162,11 +158,9 @@ public final class MovingThings {
     }
 
     public int visits(int thing, int x0, int x1, int y0, int y1) {
-        if (!isThing(thing)) {
-            return UNKNOWN;
-        }
-        if (!isPlace(x0, x1, y0, y1)) {
-            return OUTSIDE;
+        int refusal = refuseVisit(thing, x0, x1, y0, y1);
+        if (refusal != 0) {
+            return refusal;
         }
         asked.set(x0, x1, y0, y1);
         gatherVisits(thing);
@@ -174,11 +168,9 @@ public final class MovingThings {
     }
 
     public int visit(int thing, int x0, int x1, int y0, int y1, int i, boolean last) {
-        if (!isThing(thing)) {
-            return UNKNOWN;
-        }
-        if (!isPlace(x0, x1, y0, y1)) {
-            return OUTSIDE;
+        int refusal = refuseVisit(thing, x0, x1, y0, y1);
+        if (refusal != 0) {
+            return refusal;
         }
         asked.set(x0, x1, y0, y1);
         gatherVisits(thing);
@@ -204,11 +196,9 @@ public final class MovingThings {
     }
 
     public int nearest(int thing, int minute, int k) {
-        if (!isThing(thing)) {
-            return UNKNOWN;
-        }
-        if (!isMinute(minute)) {
-            return OUTSIDE;
+        int refusal = refuseMoment(thing, minute);
+        if (refusal != 0) {
+            return refusal;
         }
         if (!tracks[thing].locate(minute, spot)) {
             return STATE;
@@ -280,33 +270,27 @@ public final class MovingThings {
     // ---- thinned
 
     public int thin(int thing, int error) {
-        if (!isThing(thing)) {
-            return UNKNOWN;
-        }
-        if (!isWithin(error, 0, ERROR_LIMIT)) {
-            return OUTSIDE;
+        int refusal = refuseThinning(thing, error);
+        if (refusal != 0) {
+            return refusal;
         }
         thinning.plan(tracks[thing], error);
         return thinning.keeps;
     }
 
     public int kept(int thing, int error, int i) {
-        if (!isThing(thing)) {
-            return UNKNOWN;
-        }
-        if (!isWithin(error, 0, ERROR_LIMIT)) {
-            return OUTSIDE;
+        int refusal = refuseThinning(thing, error);
+        if (refusal != 0) {
+            return refusal;
         }
         thinning.plan(tracks[thing], error);
         return isWithin(i, 0, thinning.keeps - 1) ? thinning.rowsKept[i] : NONE;
     }
 
     public int thinned(int thing, int error) {
-        if (!isThing(thing)) {
-            return UNKNOWN;
-        }
-        if (!isWithin(error, 0, ERROR_LIMIT)) {
-            return OUTSIDE;
+        int refusal = refuseThinning(thing, error);
+        if (refusal != 0) {
+            return refusal;
         }
         Track track = tracks[thing];
         int before = track.rows;
@@ -342,11 +326,9 @@ public final class MovingThings {
     }
 
     public int changes(int stand, int minute) {
-        if (!isStand(stand)) {
-            return UNKNOWN;
-        }
-        if (!isMinute(minute)) {
-            return OUTSIDE;
+        int refusal = refuseChange(stand, minute);
+        if (refusal != 0) {
+            return refusal;
         }
         int found = 0;
         for (int thing = 0; thing < THING_LIMIT; thing++) {
@@ -358,11 +340,9 @@ public final class MovingThings {
     }
 
     public int change(int stand, int minute, int i) {
-        if (!isStand(stand)) {
-            return UNKNOWN;
-        }
-        if (!isMinute(minute)) {
-            return OUTSIDE;
+        int refusal = refuseChange(stand, minute);
+        if (refusal != 0) {
+            return refusal;
         }
         int found = 0;
         for (int thing = 0; thing < THING_LIMIT; thing++) {
@@ -491,7 +471,36 @@ public final class MovingThings {
         return isWithin(stand, 0, standsMade - 1);
     }
 
-    /** 0: nothing is refused. */
+    // ---- refusals that calls share; 0: nothing is refused
+
+    private static int refuseMoment(int thing, int minute) {
+        if (!isThing(thing)) {
+            return UNKNOWN;
+        }
+        return isMinute(minute) ? 0 : OUTSIDE;
+    }
+
+    private static int refuseVisit(int thing, int x0, int x1, int y0, int y1) {
+        if (!isThing(thing)) {
+            return UNKNOWN;
+        }
+        return isPlace(x0, x1, y0, y1) ? 0 : OUTSIDE;
+    }
+
+    private static int refuseThinning(int thing, int error) {
+        if (!isThing(thing)) {
+            return UNKNOWN;
+        }
+        return isWithin(error, 0, ERROR_LIMIT) ? 0 : OUTSIDE;
+    }
+
+    private int refuseChange(int stand, int minute) {
+        if (!isStand(stand)) {
+            return UNKNOWN;
+        }
+        return isMinute(minute) ? 0 : OUTSIDE;
+    }
+
     private static int refuseMeeting(int a, int b, int r) {
         if (!isThing(a) || !isThing(b)) {
             return UNKNOWN;

@@ -33,6 +33,7 @@ public final class PromiseTest {
         longest();
         pages();
         size();
+        cuts();
         opens();
         thin();
         kept();
@@ -513,12 +514,41 @@ public final class PromiseTest {
         due(18, "the first leaf has two", five.opens(0, 11, 0, 0, 0, 0, true), 2);
         due(18, "the next leaf begins at 20", five.opens(12, 19, 0, 0, 0, 0, false), 1);
         tell(five, 5, 0, 15, 0, 1, 16, 1);
-        due(18, "grows least: like ones, the first", five.size(), 68 + 88);
+        due(18, "grows as much: the first", five.size(), 68 + 88);
+        due(18, "the first leaf goes to 16", five.opens(12, 14, 0, 0, 0, 0, false), 2);
         five.say(0, 1, 1, 0);
         due(18, "mended: made anew", five.size(), 68 + 88);
         five.thinned(5, 99);
         five.forget(5, 1);
         due(18, "forgotten: made anew", five.size(), 48 + 88);
+    }
+
+    /** Things from 0 on with a leg each, begun at that value along one axis, at 0 along the others, 1 long. */
+    static MovingThings along(int axis, int... values) {
+        MovingThings x = new MovingThings();
+        for (int i = 0; i < values.length; i++) {
+            int[] at = {0, 0, 0};
+            at[axis] = values[i];
+            tell(x, i, at[2], at[0], at[1], at[2] + 1, at[0] + 1, at[1] + 1);
+        }
+        return x;
+    }
+
+    static void cuts() {
+        for (int axis = 0; axis < 3; axis++) {
+            due(18, "three and two along " + axis, along(axis, 50, 0, 52, 2, 4).size(), 24 + 16);
+            due(18, "two and three along " + axis, along(axis, 50, 0, 52, 2, 54).size(), 16 + 24);
+            due(18, "to the first: 8 more", along(axis, 0, 10, 20, 30, 40, 12).size(), 56 + 88);
+            due(18, "to the next: 8 more", along(axis, 0, 10, 20, 30, 40, 18).size(), 48 + 96);
+            due(18, "in the next: none more", along(axis, 0, 10, 20, 30, 40, 25).size(), 48 + 88);
+            // Both leaves are cut again: 0 to 11, 14 to 19, 20 to 31, 40 to 47.
+            MovingThings deep = along(axis, 0, 10, 20, 30, 40, 14, 16, 18, 44, 46);
+            due(18, "cut again", deep.size(), 48 + 24 + 48 + 32);
+            due(17, "cut again", deep.pages(1) * 100 + deep.pages(2) * 10 + deep.pages(3), 743);
+        }
+        // Only the next page is cut again: the first stays a leaf.
+        MovingThings side = along(0, 0, 10, 20, 30, 40, 50, 60, 70);
+        due(17, "deep on one side", side.pages(1) * 100 + side.pages(2) * 10 + side.pages(3), 533);
     }
 
     static void opens() {
