@@ -23,10 +23,36 @@ public final class ModelTest {
                 answered++;
             }
         }
+        answered += deepPages();
         System.out.println(wrong == 0 ? answered + " answers agree with the model" : wrong + " answers do not agree");
         if (wrong != 0) {
             System.exit(1);
         }
+    }
+
+    /** 230 legs along one line, so that nearly each cut goes one page deeper. */
+    static int deepPages() {
+        Driver deep = new Driver(RUNS);
+        for (int t = 0; t < 10; t++) {
+            for (int i = 0; i < 24; i++) {
+                int at = 9 * t + i * 9 / 24;
+                deep.real.say(t, 19 * t + i, at, at);
+                deep.model.things.get(t).put(19 * t + i, new int[] {at, at});
+            }
+        }
+        Page root = deep.model.root();
+        long[] all = {root.all.size(), root.pages(), root.leaves(), root.deep(), 110, root.leafSizes()};
+        for (int what = 0; what < 4; what++) {
+            deep.due(Driver.said("pages", what), deep.real.pages(what), all[what]);
+        }
+        deep.due("pages(3)", deep.real.pages(3), all[4]);
+        deep.due("size()", deep.real.size(), all[5]);
+        for (int from = 0; from < 200; from++) {
+            int[] f = {from / 3, from / 4, from}, t = {from / 3 + 20, from / 4 + 20, Math.min(199, from + 30)};
+            deep.due(Driver.said("opens", f, t), deep.real.opens(f[0], t[0], f[1], t[1], f[2], t[2], false),
+                root.opened(f, t));
+        }
+        return 206;
     }
 
     /** A fraction in least terms, below above zero. */
@@ -469,6 +495,8 @@ public final class ModelTest {
         final Model model = new Model();
         final Random random;
         final int run, things, side, lastMinute, step;
+        /** Whether rows are told at the edges alone: of x and y, of columns, of minutes, of legs. */
+        final boolean edges;
         int drawnMinute = 0;
 
         Driver(int run) {
@@ -478,6 +506,15 @@ public final class ModelTest {
             side = new int[] {4, 12, 100}[run % 3];
             lastMinute = new int[] {30, 90, 200}[(run / 3) % 3];
             step = new int[] {3, 8, 20}[(run / 2) % 3];
+            edges = run % 5 == 4;
+        }
+
+        int oneOf(int... some) {
+            return some[random.nextInt(some.length)];
+        }
+
+        int coordinate() {
+            return edges ? oneOf(0, 1, 9, 10, 50, 89, 90, 98, 99, 99, 0, upTo(100)) : upTo(side);
         }
 
         boolean odd() {
@@ -498,10 +535,13 @@ public final class ModelTest {
         }
 
         int minute() {
-            return upTo(lastMinute);
+            return upTo(edges ? 200 : lastMinute);
         }
 
         int sayMinute() {
+            if (edges) {
+                return oneOf(0, 1, 15, 16, 17, 32, 33, 34, 50, 100, 166, 167, 182, 183, 184, 198, 199, minute());
+            }
             if (random.nextInt(3) == 0) {
                 return minute();
             }
@@ -563,7 +603,7 @@ public final class ModelTest {
         }
 
         void say() {
-            int t = thing(), m = sayMinute(), x = upTo(side), y = upTo(side);
+            int t = thing(), m = sayMinute(), x = coordinate(), y = coordinate();
             long got = real.say(t, m, x, y), want;
             if (!Model.thing(t)) {
                 want = UNKNOWN;

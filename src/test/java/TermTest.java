@@ -376,6 +376,17 @@ public final class TermTest {
             due("like ones " + k, ten.nearest(4, 0, k), k < 4 ? k : k + 1);
         }
         due("nine others", ten.nearest(4, 0, 9), NONE);
+        MovingThings falling = new MovingThings();
+        for (int thing = 0; thing < 10; thing++) {
+            falling.say(thing, 0, 99 - 10 * thing, 0);
+        }
+        falling.say(0, 0, 0, 0);
+        for (int k = 0; k < 9; k++) {
+            due("the last is the nearest, " + k, falling.nearest(0, 0, k), 9 - k);
+        }
+        MovingThings close = tell(tell(told(0, 0, 0), 1, 0, 0, 0, 2, 7, 0), 2, 0, 0, 0, 3, 10, 0);
+        due("10/3 ahead of 7/2", close.nearest(0, 1, 0), 2);
+        due("7/2", close.nearest(0, 1, 1), 1);
         // 1 of 2 and 2 of 4 are like ones, though told over other numbers; 3 of 5 is nearer.
         MovingThings halves = tell(tell(told(0, 1, 0), 7, 0, 0, 0, 2, 1, 0), 3, 0, 0, 0, 4, 2, 0);
         tell(halves, 9, 0, 0, 0, 5, 3, 0);
@@ -435,9 +446,14 @@ public final class TermTest {
         due("forgotten and told anew", back.size(), 16 + 200);
         back.forget(3, 0);
         pagesAre("five are left", back, 5, 3, 2, 2);
-        back.thinned(3, 0);
         back.forget(0, 0);
         pagesAre("four are left", back, 4, 1, 1, 1);
+        MovingThings line = told(0, 0, 0, 1, 1, 0, 2, 2, 0);
+        pagesAre("two on a line", line, 2, 1, 1, 1);
+        line.thinned(0, 0);
+        pagesAre("thinned", line, 1, 1, 1, 1);
+        line.say(0, 2, 9, 9);
+        due("mended", line.size(), 10 * 10 * 3);
         says("A LEG's BOX: all from its ends");
         due("forward", told(0, 2, 3, 4, 7, 11).size(), 6 * 9 * 5);
         due("back", told(0, 7, 11, 4, 2, 3).size(), 6 * 9 * 5);
@@ -473,9 +489,16 @@ public final class TermTest {
         says("from a FORK on to that of its two pages whose SIZE grows least by it, of like ones the first");
         for (int axis = 0; axis < 3; axis++) {
             // Leaves from 0 to 11 and from 20 to 41.
-            due("4 against 5: the first", Scene.along(axis, 0, 10, 20, 30, 40, 14).size(), 64 + 88);
-            due("both by 4: the first", Scene.along(axis, 0, 10, 20, 30, 40, 15).size(), 68 + 88);
-            due("5 against 4: the next", Scene.along(axis, 0, 10, 20, 30, 40, 16).size(), 48 + 104);
+            due("4 against 6: the first", Scene.along(axis, 0, 10, 20, 30, 40, 14).size(), 64 + 88);
+            MovingThings alike = Scene.along(axis, 0, 10, 20, 30, 40, 15);
+            int[] from = {0, 0, 0}, to = {1, 1, 1};
+            from[axis] = 12;
+            to[axis] = 14;
+            due("both by 5: the first", alike.opens(from[0], to[0], from[1], to[1], from[2], to[2], false), 2);
+            from[axis] = 17;
+            to[axis] = 19;
+            due("both by 5: not the next", alike.opens(from[0], to[0], from[1], to[1], from[2], to[2], false), 1);
+            due("6 against 4: the next", Scene.along(axis, 0, 10, 20, 30, 40, 16).size(), 48 + 104);
             due("none at all: the first", Scene.along(axis, 0, 10, 20, 30, 40, 5).size(), 48 + 88);
             due("none at all: the next", Scene.along(axis, 0, 10, 20, 30, 40, 40).size(), 48 + 88);
         }
@@ -509,6 +532,14 @@ public final class TermTest {
         due("in the order they came", around(1, 2, 10, 11, 12).size(), 2 * (5 + 25));
         due("in another order", around(10, 1, 2, 11, 12).size(), 2 * (21 + 25));
         due("the three first", around(1, 10, 10, 2, 2).size(), 2 * (21 + 5));
+        // Things 2 and 3 make the first leaf; the next one holds 0, 4, 1 in that order, then 5 and 6, and is cut
+        // best along minutes, where all are alike, into 0, 1 | 4, 5, 6: not into 0, 4 | 1, 5, 6.
+        int[][] starts = {{10, 10}, {20, 10}, {0, 10}, {0, 10}, {10, 30}, {10, 20}, {10, 0}};
+        MovingThings twice = new MovingThings();
+        for (int i = 0; i < starts.length; i++) {
+            tell(twice, i, 0, starts[i][0], starts[i][1], 1, starts[i][0] + 1, starts[i][1]);
+        }
+        due("a page that was cut along x ahead of it", twice.size(), 4 + 24 + 124);
         says("the first 2 or the first 3 of them make one LEAF, the others another one");
         due("2 in the first", Scene.along(0, 0, 2, 50, 52, 54).opens(0, 3, 0, 0, 0, 0, true), 2);
         due("3 in the next", Scene.along(0, 0, 2, 50, 52, 54).opens(50, 55, 0, 0, 0, 0, true), 3);
