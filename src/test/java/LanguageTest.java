@@ -5,7 +5,9 @@ import java.lang.reflect.Modifier;
 import java.nio.charset.StandardCharsets;
 import java.nio.file.Files;
 import java.nio.file.Path;
+import java.util.Map;
 import java.util.Set;
+import java.util.TreeMap;
 import java.util.TreeSet;
 import java.util.regex.Matcher;
 import java.util.regex.Pattern;
@@ -25,7 +27,12 @@ public final class LanguageTest {
         "\\bassert\\b", "\\bimport\\b", "\\bpackage\\b", "->", "::", "Exact\\(", "\\bprotected\\b", "\\bvar\\b",
         "\\bSystem\\.(?!arraycopy)", "\\bMath\\.(?!min|max|abs)", "\\bThread\\b", "\\bjava\\.", "\\bstatic\\s*\\{",
         "\\bObject\\b", "\\bvolatile\\b", "\\btransient\\b", "\\bnative\\b", "@", "\\bdouble\\b", "\\bfloat\\b"};
-    static final int LONGEST_METHOD = 60;
+    static final String NO_STATEMENT = "(?!(?:if|for|while|switch|return)\\b)";
+    static final Pattern METHOD =
+        Pattern.compile("(?m)^( {4}| {8})" + NO_STATEMENT + "(?:\\S.* )?(\\w+)\\([^()]*\\) \\{$");
+    static final Pattern CALL = Pattern.compile("\\b" + NO_STATEMENT + "(\\w+)\\(");
+    static final Set<Class<?>> CONSTANT_TYPES = Set.of(int.class, long.class, boolean.class, char.class, String.class);
+    static final int LONGEST_METHOD = 60, DEEPEST_CALL = 8;
 
     static int wrong = 0;
 
@@ -39,7 +46,7 @@ public final class LanguageTest {
     public static void main(String[] args) throws Exception {
         String source = Files.readString(Path.of("src/main/java/MovingThings.java"), StandardCharsets.UTF_8);
         checkWords(source);
-        checkMethodLengths(source);
+        checkCalls(checkMethodLengths(source));
         checkFace();
         checkClasses();
         System.out.println(wrong == 0 ? "the language is kept" : wrong + " rules are broken");
@@ -56,15 +63,49 @@ public final class LanguageTest {
         }
     }
 
-    /** Methods stand four or eight deep here and end with their brace alone. */
-    static void checkMethodLengths(String source) {
-        Matcher method = Pattern.compile("(?m)^( {4}| {8})(?!return|if|for|while|switch)[^ \n].*\\) \\{$").matcher(source);
+    /** Methods stand four or eight deep here and end with their brace alone; by name, those of one name together. */
+    static Map<String, String> checkMethodLengths(String source) {
+        Map<String, String> bodies = new TreeMap<>();
+        Matcher method = METHOD.matcher(source);
         while (method.find()) {
             int end = source.indexOf("\n" + method.group(1) + "}", method.end());
             must(end >= 0, "an end of " + method.group());
-            long lines = source.substring(method.start(), Math.max(end, method.start())).lines().count();
-            must(lines <= LONGEST_METHOD, lines + " lines: " + method.group());
+            String body = source.substring(method.end(), Math.max(end, method.end()));
+            must(body.lines().count() <= LONGEST_METHOD, body.lines().count() + " lines: " + method.group());
+            bodies.merge(method.group(2), body, String::concat);
         }
+        return bodies;
+    }
+
+    /** Rules 8 and 11: no method comes back to itself, and calls go eight deep at most, the library's with them. */
+    static void checkCalls(Map<String, String> bodies) {
+        for (Method m : MovingThings.class.getDeclaredMethods()) {
+            must(bodies.containsKey(m.getName()), "the lines of " + m.getName() + " are found");
+        }
+        Map<String, Integer> depths = new TreeMap<>();
+        for (String name : bodies.keySet()) {
+            int depth = depthOf(name, bodies, depths, 0);
+            must(depth <= DEEPEST_CALL, depth + " calls deep: " + name);
+        }
+    }
+
+    static int depthOf(String name, Map<String, String> bodies, Map<String, Integer> depths, int open) {
+        if (open > bodies.size()) {
+            must(false, "recursion without a guard: " + name);
+            return 0;
+        }
+        if (!bodies.containsKey(name)) {
+            return 1;
+        }
+        if (!depths.containsKey(name)) {
+            int deepest = 0;
+            Matcher call = CALL.matcher(bodies.get(name));
+            while (call.find()) {
+                deepest = Math.max(deepest, depthOf(call.group(1), bodies, depths, open + 1));
+            }
+            depths.put(name, deepest + 1);
+        }
+        return depths.get(name);
     }
 
     static String sign(Method m) {
@@ -113,6 +154,7 @@ public final class LanguageTest {
         checkClass(MovingThings.class);
         for (Class<?> inner : MovingThings.class.getDeclaredClasses()) {
             must(Modifier.isStatic(inner.getModifiers()), "static " + inner);
+            must(!Modifier.isPublic(inner.getModifiers()), "private or package-visible " + inner);
             must(inner.getDeclaredClasses().length == 0, "no deeper classes in " + inner);
             checkClass(inner);
         }
@@ -122,7 +164,7 @@ public final class LanguageTest {
         int own = 0;
         for (Field f : type.getDeclaredFields()) {
             if (Modifier.isStatic(f.getModifiers())) {
-                must(Modifier.isFinal(f.getModifiers()), "final " + f);
+                must(Modifier.isFinal(f.getModifiers()) && CONSTANT_TYPES.contains(f.getType()), "a constant " + f);
             } else {
                 own++;
             }
